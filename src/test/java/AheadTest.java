@@ -116,6 +116,24 @@ final class AheadTest {
         foreseeAsDue(works, 3, 5, 0);
         foreseeAsDue(works, 60, 6, 150);
         foreseeAsTheDaysGo();
+        foreseeFirstClamp();
+    }
+
+    private static void foreseeFirstClamp() {
+        AlumWorks works = new AlumWorks();
+        works.bring(0, 100);
+        works.pile(80);
+        works.light(0, 12);
+        foreseeAsDue(works, 5, 7, 1);
+        foreseeAsDue(works, 6, 7, 0);
+        for (int number = 1; number < 4; number++) {
+            works.pile(45);
+            works.light(number, 20);
+        }
+        foreseeAsDue(works, 5, 7, 4);
+        foreseeAsDue(works, 6, 7, 0);
+        works.setRain(3, 5);
+        foreseeAsDue(works, 6, 7, 3);
     }
 
     private static AlumWorks manyThings() {
@@ -124,12 +142,12 @@ final class AheadTest {
         works.pan();
         works.pour(0, 6);
         works.bring(0, 200);
-        works.pile(30);
+        works.pile(60);
         works.light(1, 20);
         works.dig(40);
-        works.pass(4);
+        works.pass(8);
         works.steep(1, 1);
-        works.draw(1, 0, 20);
+        works.draw(1, 0, 8);
         works.pour(0, 4);
         works.pile(190);
         works.light(2, 47);
@@ -144,6 +162,7 @@ final class AheadTest {
     private static void foreseeAsTheDaysGo() {
         AlumWorks asked = manyThings();
         CHECKS.due("fine ones to foresee", asked.count(4) > 0, true);
+        CHECKS.due("coarse ones to foresee", asked.count(5) > 0, true);
         for (int days = 1; days <= 60; days++) {
             AlumWorks gone = manyThings();
             gone.pass(days);
@@ -169,7 +188,7 @@ final class AheadTest {
         int[][] rows = { // water, alum, barrels
             {120, 30, 6}, {120, 31, 7}, {66, 34, 7}, {150, 1, 1}, {81, 20, 10}, {82, 19, 10},
             {65, 35, 12}, {60, 36, 12}, {60, 60, 20}, {60, 61, 20}, {50, 100, 20}, {60, 57, 19},
-            {150, 37, 19}, {150, 38, 8}, {150, 75, 15},
+            {150, 37, 19}, {150, 38, 8}, {150, 75, 15}, {150, 2, 1}, {150, 3, 2}, {150, 4, 2}, {150, 5, 3},
         };
         for (int[] row : rows) {
             AlumWorks works = Setup.panOf(row[0], row[1]);

@@ -11,6 +11,7 @@ final class TellTest {
         count();
         mean();
         digest();
+        digestOfFullWorks();
         CHECKS.end("TellTest");
     }
 
@@ -83,6 +84,9 @@ final class TellTest {
         dry.pass(1);
         CHECKS.due("alum without water", dry.pit(0, 2), 100);
         CHECKS.due("egg without water", dry.pit(0, 3), 2);
+        AlumWorks one = Setup.pitOf(1, 1);
+        one.pass(1);
+        CHECKS.due("1 alum without water", one.pit(0, 2), 100);
         AlumWorks none = new AlumWorks();
         none.dig(0);
         CHECKS.due("strength of neither", none.pit(0, 2), 0);
@@ -167,6 +171,32 @@ final class TellTest {
             }
         }
         return d;
+    }
+
+    /** As many of all as there can be: every row is in use. */
+    private static void digestOfFullWorks() {
+        AlumWorks works = new AlumWorks();
+        works.bring(0, 500);
+        for (int number = 0; number < 4; number++) {
+            works.pile(100 + number);
+            works.dig(200 + number);
+            works.light(number, 10 + number);
+        }
+        for (int number = 0; number < 3; number++) {
+            works.pan();
+            works.draw(number + 1, number, 50 + number);
+            works.boil(number);
+        }
+        works.pass(3);
+        CHECKS.asks(works, "all that burn", () -> works.count(7), 4);
+        CHECKS.asks(works, "coal foreseen", () -> works.foresee(1, 2), 500 - 46 - 48);
+        works.pass(5);
+        for (int number = 0; number < 4; number++) {
+            works.steep(number, number);
+        }
+        CHECKS.asks(works, "all alum", () -> works.count(8), 20 + 24 + 24 + 28);
+        CHECKS.asks(works, "mean of all, the pans boiled dry", works::mean, (10 + 15 + 15 + 18) / 4.0);
+        CHECKS.due("digest() of full works", works.digest(), digestOf(works, new int[6], new int[7], new int[] {4, 4, 3}));
     }
 
     private static void digest() {

@@ -225,6 +225,21 @@ final class WorksTest {
         pourOne(65, 35, 12, 35, 5);
         pourOne(150, 1, 1, 1, 5);
         pourOne(100, 100, 20, 60, 5);
+        pourTwice(120, 60, 4, 10);
+        pourTwice(120, 80, 5, 6);
+    }
+
+    /** The crystals of both pours add up: a barrel each, so many crystals in all. */
+    private static void pourTwice(int water, int alum, int what, int want) {
+        AlumWorks works = Setup.pitOf(water, alum);
+        works.bring(1, 20);
+        works.pan();
+        works.draw(0, 0, water / 2);
+        int first = works.pour(0, 1);
+        works.draw(0, 0, water / 2);
+        int second = works.pour(0, 1);
+        CHECKS.due("crystals of two pours", first + second, want);
+        CHECKS.due("their count", works.count(what), want);
     }
 
     private static void pourOne(int water, int alum, int barrels, int crystals, int what) {
