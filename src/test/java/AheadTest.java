@@ -136,35 +136,13 @@ final class AheadTest {
         foreseeAsDue(works, 6, 7, 3);
     }
 
-    private static AlumWorks manyThings() {
-        AlumWorks works = Setup.panOf(120, 30);
-        works.bring(1, 60);
-        works.pan();
-        works.pour(0, 6);
-        works.bring(0, 200);
-        works.pile(60);
-        works.light(1, 20);
-        works.dig(40);
-        works.pass(8);
-        works.steep(1, 1);
-        works.draw(1, 0, 8);
-        works.pour(0, 4);
-        works.pile(190);
-        works.light(2, 47);
-        works.draw(1, 1, 8);
-        works.boil(1);
-        works.setShip(1, 4);
-        works.setShip(3, 13);
-        works.setRain(2, 5);
-        return works;
-    }
-
     private static void foreseeAsTheDaysGo() {
-        AlumWorks asked = manyThings();
-        CHECKS.due("fine ones to foresee", asked.count(4) > 0, true);
-        CHECKS.due("coarse ones to foresee", asked.count(5) > 0, true);
+        AlumWorks now = Setup.busy();
+        CHECKS.due("fine ones to foresee", now.count(4) > 0, true);
+        CHECKS.due("coarse ones to foresee", now.count(5) > 0, true);
         for (int days = 1; days <= 60; days++) {
-            AlumWorks gone = manyThings();
+            AlumWorks asked = Setup.busy();
+            AlumWorks gone = Setup.busy();
             gone.pass(days);
             for (int what : new int[] {2, 4, 5, 6, 7}) {
                 foreseeAsDue(asked, days, what, gone.count(what));
@@ -173,7 +151,7 @@ final class AheadTest {
     }
 
     private static void foreseeRefused() {
-        AlumWorks works = manyThings();
+        AlumWorks works = Setup.busy();
         for (int days : new int[] {0, -1, 61, Integer.MIN_VALUE, Integer.MAX_VALUE}) {
             CHECKS.refusedArgument(works, "foresee(" + days + ", 2)", () -> works.foresee(days, 2));
             CHECKS.refusedArgument(works, "foresee(" + days + ", 3)", () -> works.foresee(days, 3));

@@ -244,24 +244,18 @@ final class DaysTest {
         works.draw(2, 1, 30);
         CHECKS.due("coarse ones come", works.pour(1, 2), 3);
         stores(works, 20, 3, 0, 0);
-        shipAlways(works, 6);
+        Setup.shipsAlways(works, 6);
         CHECKS.due("6 fine ones", works.pass(1), 30);
         stores(works, 14, 3, 30, 6);
-        shipAlways(works, 15);
+        Setup.shipsAlways(works, 15);
         CHECKS.due("14 fine ones and a coarse one", works.pass(1), 72);
         stores(works, 0, 2, 102, 21);
-        shipAlways(works, 0);
+        Setup.shipsAlways(works, 0);
         CHECKS.due("a ship that takes none", works.pass(1), 0);
         stores(works, 0, 2, 102, 21);
-        shipAlways(works, 60);
+        Setup.shipsAlways(works, 60);
         CHECKS.due("the rest, and then none", works.pass(10), 4);
         stores(works, 0, 0, 106, 23);
-    }
-
-    private static void shipAlways(AlumWorks works, int takes) {
-        for (int day = 0; day < 7; day++) {
-            works.setShip(day, takes);
-        }
     }
 
     private static void shipsByDay() {
