@@ -139,11 +139,11 @@ final class AheadEdges {
         });
     }
 
-    /** Four clamps that burn for 1, 2 and 4 days more, as far as their shale goes, and 2 days by the last one's coal. */
+    /** Four clamps that burn for 4, 1 and 2 days more, as far as their shale goes, and the last for 2 by its coal. */
     private static AlumWorks clampsThatEnd() {
         AlumWorks works = new AlumWorks();
         works.bring(0, 200);
-        int[] shales = {9, 17, 33, 200};
+        int[] shales = {33, 9, 17, 200};
         for (int clamp = 0; clamp <= 3; clamp++) {
             works.pile(shales[clamp]);
             works.light(clamp, clamp == 3 ? 5 : 60);
